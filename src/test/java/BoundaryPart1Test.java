@@ -387,6 +387,18 @@ public final class BoundaryPart1Test {
         Due.due("numbers from 0 on again", f.bar(4, 2), 0);
         Due.due("as told", f.ofBar(0, 0), 4);
         Due.due("stuff", f.ofBar(0, 2), 41);
+        LightFrame four = new LightFrame();
+        four.joint(0, 0, true);
+        four.joint(6, 6, true);
+        four.joint(0, 6, true);
+        four.joint(6, 0, true);
+        four.bar(0, 1);
+        int[] ends = {3, 1, 3, 0};
+        for (int end : ends) {
+            four.bar(2, end);
+            Due.due("bar 1 of that time", four.cross(0, 1), end == 3 ? 1 : 0);
+            four.drop();
+        }
     }
 
     private static void crossUnknown() {
